@@ -80,7 +80,7 @@ public final class StackTarget {
     // The row of open parts. The sort of a part is the code of the token that gave it that sort.
     private final int[] partSort = new int[MAX_PARTS];
     private final int[] partStart = new int[MAX_PARTS];
-    // The token of the part that goes on behind the next token of the same part.
+    // The token of the part whose jump is still to be set: it goes on behind the next token of the part.
     private final int[] partSkip = new int[MAX_PARTS];
     private int partCount;
 
@@ -333,7 +333,7 @@ public final class StackTarget {
         partCount++;
     }
 
-    // A BEGIN gets a jump too, here and in closePart, and a THEN there: they never use it.
+    // Here and in closePart a BEGIN or THEN gets a jump too; it never uses it, so none is told apart.
     private void changePart(int at) {
         int part = partCount - 1;
         jumps[partSkip[part]] = at + 1;

@@ -18,6 +18,7 @@ public final class TranslateTest {
         translationEmptiesTheMachine();
         errorPlaceIsOfTheLastError();
         variablesGetAddressesInOrder();
+        eachTranslationStartsAnew();
         check.end();
     }
 
@@ -244,5 +245,19 @@ public final class TranslateTest {
         Source.give(twelve, "VARIABLE 0");
         check.due("a thirteenth: translate()", twelve.translate(), StackTarget.TWICE);
         check.due("a thirteenth: errorAt()", twelve.errorAt(), 12);
+    }
+
+    private static void eachTranslationStartsAnew() {
+        StackTarget x = Source.given("VARIABLE 1 VARIABLE 2 DEFINE 0 IF BEGIN TIMES");
+        check.due("open parts: translate()", x.translate(), StackTarget.OPEN);
+        x.clear();
+        Source.give(x, "DEFINE 0 WORD 3 END VARIABLE 3");
+        check.due("no open part of before: translate()", x.translate(), 0);
+        check.due("run(0)", x.run(0), 0);
+        check.stack("addresses count from 0 again", x, 0);
+        check.due("no variable of before: run(1)", x.run(1), -1);
+        check.due("translate() again", x.translate(), 0);
+        check.due("run(0) again", x.run(0), 0);
+        check.stack("addresses count from 0 once more", x, 0);
     }
 }
