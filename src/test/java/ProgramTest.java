@@ -12,13 +12,17 @@ public final class ProgramTest {
         tokenKeepsStackAndOutput();
         tokenRefusesThe81st();
         refusedTokenKeepsTranslation();
+        refusedTokenChangesNoError();
         clearRemovesAllTokens();
         clearEndsTranslation();
+        clearOfAnEmptyProgram();
         clearKeepsStackOutputAndErrorPlace();
+        clearKeepsAFullMachine();
         clearMakesRoomAgain();
         check.end();
     }
 
+    /** "No token; not translated; stack and output empty." */
     private static void newObjectIsEmpty() {
         StackTarget x = new StackTarget();
         check.stack("new", x);
@@ -63,6 +67,7 @@ public final class ProgramTest {
         }
     }
 
+    /** "Adds a token at the end of the program; the program is not translated then." */
     private static void tokenEndsTranslation() {
         StackTarget x = Source.translated("VARIABLE 0 DEFINE 1 NUMBER 7 WORD 0 STORE END");
         check.due("before token: run(1)", x.run(1), 0);
@@ -85,6 +90,7 @@ public final class ProgramTest {
         check.output("after token", x, 6, 6);
     }
 
+    /** "Answers -1 and changes nothing if there are 80 tokens; else the number of tokens then." */
     private static void tokenRefusesThe81st() {
         StackTarget x = Source.given("DEFINE 0 " + Source.times(78, "NUMBER 1") + "END");
         check.due("81st token", x.token(0, 0), -1);
@@ -92,6 +98,14 @@ public final class ProgramTest {
         check.due("80 tokens: translate()", x.translate(), 0);
         check.due("80 tokens: run(0)", x.run(0), StackTarget.OVERFLOW);
         check.due("80 tokens: run(1)", x.run(1), -1);
+    }
+
+    private static void refusedTokenChangesNoError() {
+        StackTarget x = Source.given("DEFINE 0 " + Source.times(79, "DUP"));
+        check.due("open: translate()", x.translate(), StackTarget.OPEN);
+        check.due("81st token, an END", x.token(27, 0), -1);
+        check.due("still open: translate()", x.translate(), StackTarget.OPEN);
+        check.due("still open: errorAt()", x.errorAt(), 80);
     }
 
     private static void refusedTokenKeepsTranslation() {
@@ -103,6 +117,7 @@ public final class ProgramTest {
         check.due("still translated: run(0)", x.run(0), StackTarget.UNDERFLOW);
     }
 
+    /** "Removes all tokens" */
     private static void clearRemovesAllTokens() {
         StackTarget x = Source.given("DEFINE 0 IF");
         x.clear();
@@ -113,14 +128,42 @@ public final class ProgramTest {
         check.due("cleared: the name is free again", x.translate(), 0);
     }
 
+    /** "the program is not translated then", also if it was empty before. */
     private static void clearEndsTranslation() {
         StackTarget x = Source.translated("VARIABLE 0 DEFINE 1 NUMBER 7 WORD 0 STORE END");
         x.run(1);
         x.clear();
         check.due("cleared: run(1)", x.run(1), -1);
         check.due("cleared: variable(0)", x.variable(0), 0);
+        check.due("cleared: translate()", x.translate(), 0);
+        x.clear();
+        check.due("cleared again: run(1)", x.run(1), -1);
+        check.due("cleared again: first token", x.token(28, 0), 1);
     }
 
+    private static void clearOfAnEmptyProgram() {
+        StackTarget x = new StackTarget();
+        x.clear();
+        x.clear();
+        check.stack("nothing to clear", x);
+        check.output("nothing to clear", x);
+        check.due("nothing to clear: errorAt()", x.errorAt(), 0);
+        check.due("nothing to clear: run(0)", x.run(0), -1);
+        check.due("nothing to clear: first token", x.token(28, 0), 1);
+        check.due("nothing to clear: translate()", x.translate(), 0);
+    }
+
+    private static void clearKeepsAFullMachine() {
+        StackTarget x = Source.translated("DEFINE 0 NUMBER 16 TIMES INDEX EMIT INDEX NEXT END");
+        check.due("run(0)", x.run(0), 0);
+        x.clear();
+        int[] sixteen = {0, 1, 2, 3, 4, 5, 6, 7, 8, 9, 10, 11, 12, 13, 14, 15};
+        check.stack("cleared", x, sixteen);
+        check.output("cleared", x, sixteen);
+        check.due("cleared: push", x.push(1), -1);
+    }
+
+    /** "Stack and output stay." */
     private static void clearKeepsStackOutputAndErrorPlace() {
         StackTarget x = Source.given("DEFINE 0 EMIT EMIT END ADD");
         check.due("translate()", x.translate(), StackTarget.STRAY);

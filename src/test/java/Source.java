@@ -20,12 +20,17 @@ final class Source {
 
     /** Adds the tokens to x; a code without an arg gets the arg 0. */
     static void give(StackTarget x, String text) {
+        if (text.isBlank()) {
+            return;
+        }
         String[] words = text.trim().split("\\s+");
         for (int i = 0; i < words.length; i++) {
             int code = code(words[i]);
             boolean hasArg = i + 1 < words.length && words[i + 1].matches("-?[0-9]+");
             int arg = hasArg ? Integer.parseInt(words[i + 1]) : 0;
-            x.token(code, arg);
+            if (x.token(code, arg) < 0) {
+                throw new IllegalArgumentException("token refused: " + text);
+            }
             if (hasArg) {
                 i++;
             }
@@ -47,8 +52,23 @@ final class Source {
         return x;
     }
 
+    /** How many tokens the text has. */
+    static int tokens(String text) {
+        int tokens = 0;
+        for (String word : text.trim().split("\\s+")) {
+            if (CODES.contains(word)) {
+                tokens++;
+            }
+        }
+        return tokens;
+    }
+
     static String times(int n, String text) {
         return (text + " ").repeat(n);
+    }
+
+    static int[] row(int... numbers) {
+        return numbers;
     }
 
     static void pushAll(StackTarget x, int... values) {

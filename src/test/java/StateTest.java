@@ -5,19 +5,25 @@ public final class StateTest {
 
     public static void main(String[] args) {
         pushCountsUpToSixteen();
+        pushHasRoomAgainBelowSixteen();
+        pushOnAStackFilledByARun();
         pushTakesEveryNumber();
+        depthCountsFromZeroToSixteen();
         pushWorksInEveryState();
         topCountsFromAbove();
         topAnswersZeroWhereNoneIs();
         outputCountsFromTheFirst();
         outputAnswersZeroWhereNoneIs();
         sixteenOutputs();
+        aFullOutputIsEmptiedByTheNextRun();
         variableTellsItsCell();
         variableAnswersZeroWhereNoneIs();
+        variablesUpToTheLastAddress();
         askingChangesNothing();
         check.end();
     }
 
+    /** "Answers -1 and changes nothing if the stack has 16 numbers; else how many it has then." */
     private static void pushCountsUpToSixteen() {
         StackTarget x = new StackTarget();
         for (int n = 1; n <= 16; n++) {
@@ -28,6 +34,30 @@ public final class StateTest {
         check.due("17th push", x.push(5), -1);
         check.due("18th push", x.push(-1), -1);
         check.stack("sixteen", x, 101, 102, 103, 104, 105, 106, 107, 108, 109, 110, 111, 112, 113, 114, 115, 116);
+    }
+
+    private static void pushHasRoomAgainBelowSixteen() {
+        StackTarget x = Source.translated("DEFINE 0 DROP END");
+        for (int n = 1; n <= 16; n++) {
+            x.push(n);
+        }
+        check.due("17th push", x.push(99), -1);
+        check.due("run(0)", x.run(0), 0);
+        check.due("push with one place free", x.push(50), 16);
+        check.due("17th push again", x.push(99), -1);
+        check.due("top(0)", x.top(0), 50);
+        check.due("top(1)", x.top(1), 15);
+        check.due("translate()", x.translate(), 0);
+        check.due("push on the emptied stack", x.push(7), 1);
+    }
+
+    private static void pushOnAStackFilledByARun() {
+        StackTarget x = Source.translated("DEFINE 0 NUMBER 15 TIMES INDEX NEXT END");
+        check.due("run(0)", x.run(0), 0);
+        check.due("16th number", x.push(1), 16);
+        check.due("17th number", x.push(2), -1);
+        check.due("full: depth()", x.depth(), 16);
+        check.due("full: top(0)", x.top(0), 1);
     }
 
     private static void pushTakesEveryNumber() {
@@ -50,6 +80,22 @@ public final class StateTest {
         check.stack("at last", x, 2, 3, 4);
     }
 
+    /** "The number of numbers on the stack." */
+    private static void depthCountsFromZeroToSixteen() {
+        StackTarget x = Source.translated("DEFINE 0 DROP END");
+        check.due("empty: depth()", x.depth(), 0);
+        check.due("DROP on the empty stack", x.run(0), StackTarget.UNDERFLOW);
+        check.due("still empty: depth()", x.depth(), 0);
+        for (int n = 1; n <= 17; n++) {
+            x.push(n);
+        }
+        for (int n = 16; n > 0; n--) {
+            check.due("depth()", x.depth(), n);
+            check.due("run(0)", x.run(0), 0);
+        }
+        check.due("empty again: depth()", x.depth(), 0);
+    }
+
     private static void topCountsFromAbove() {
         StackTarget x = new StackTarget();
         Source.pushAll(x, 7, 8, 9);
@@ -58,6 +104,7 @@ public final class StateTest {
         check.due("top(2)", x.top(2), 7);
     }
 
+    /** "The number on the stack with so many others above it (0 is the top one); 0 if there is none." */
     private static void topAnswersZeroWhereNoneIs() {
         StackTarget x = Source.translated("DEFINE 0 DROP DROP END");
         check.due("empty: top(0)", x.top(0), 0);
@@ -69,6 +116,7 @@ public final class StateTest {
         for (int n = 0; n < 16; n++) {
             x.push(3);
         }
+        check.due("sixteen: top(15)", x.top(15), 7);
         for (int below : NO_PLACES) {
             check.due("sixteen: top(" + below + ")", x.top(below), 0);
         }
@@ -84,21 +132,36 @@ public final class StateTest {
         check.due("emptied: output(1)", x.output(1), 0);
     }
 
+    /** "The number at the place in the output, counted from 0; 0 if there is none." */
     private static void outputAnswersZeroWhereNoneIs() {
         StackTarget x = new StackTarget();
         check.due("new: output(0)", x.output(0), 0);
         x = Source.translated("DEFINE 0 NUMBER 16 TIMES NUMBER 5 EMIT NEXT END");
         check.due("run(0)", x.run(0), 0);
+        check.due("sixteen: output(0)", x.output(0), 5);
+        check.due("sixteen: output(15)", x.output(15), 5);
         for (int place : NO_PLACES) {
             check.due("sixteen: output(" + place + ")", x.output(place), 0);
         }
     }
 
+    /** "The number of numbers in the output.", of which there are at most 16. */
     private static void sixteenOutputs() {
         StackTarget x = Source.translated("DEFINE 0 NUMBER 20 TIMES INDEX EMIT NEXT END");
         check.due("run(0)", x.run(0), StackTarget.FULL);
         check.output("full", x, 0, 1, 2, 3, 4, 5, 6, 7, 8, 9, 10, 11, 12, 13, 14, 15);
         check.stack("full", x, 16);
+    }
+
+    private static void aFullOutputIsEmptiedByTheNextRun() {
+        StackTarget x = Source.translated("DEFINE 0 NUMBER 16 TIMES INDEX EMIT NEXT END DEFINE 1 NUMBER 9 EMIT END");
+        for (int time = 0; time < 2; time++) {
+            check.due("run(0)", x.run(0), 0);
+            check.due("full: outputs()", x.outputs(), 16);
+            check.due("run(1)", x.run(1), 0);
+            check.output("emptied", x, 9);
+            check.due("emptied: output(15)", x.output(15), 0);
+        }
     }
 
     private static void variableTellsItsCell() {
@@ -115,6 +178,7 @@ public final class StateTest {
         check.due("kept by a stop: variable(1)", x.variable(1), -5);
     }
 
+    /** "The value of the variable with the address; 0 if the program is not translated or there is none." */
     private static void variableAnswersZeroWhereNoneIs() {
         StackTarget x = Source.translated("VARIABLE 4 VARIABLE 2 DEFINE 0 WORD 2 STORE WORD 4 STORE END");
         Source.pushAll(x, 3, 3);
@@ -128,6 +192,22 @@ public final class StateTest {
         check.due("translate()", x.translate(), 0);
         check.due("fresh: variable(0)", x.variable(0), 0);
         check.due("of the earlier program: variable(1)", x.variable(1), 0);
+    }
+
+    private static void variablesUpToTheLastAddress() {
+        StackTarget x = Source.given("DEFINE 0 NUMBER 11 TIMES INDEX NUMBER 100 ADD INDEX STORE NEXT END");
+        for (int name = 1; name <= 11; name++) {
+            Source.give(x, "VARIABLE " + name);
+        }
+        check.due("translate()", x.translate(), 0);
+        check.due("run(0)", x.run(0), 0);
+        for (int address = 0; address <= 10; address++) {
+            check.due("eleven: variable(" + address + ")", x.variable(address), 100 + address);
+        }
+        for (int address : new int[] {-1, 11, 12, Integer.MIN_VALUE, Integer.MAX_VALUE}) {
+            check.due("eleven: variable(" + address + ")", x.variable(address), 0);
+        }
+        check.due("a program without variables", Source.translated("DEFINE 0 END").variable(0), 0);
     }
 
     private static void askingChangesNothing() {
