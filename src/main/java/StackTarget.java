@@ -53,8 +53,8 @@ public final class StackTarget {
     private static final int MAX_CALLS = 8;
     private static final int MAX_COUNTS = MAX_CALLS * MAX_PARTS;
 
-    // A run goes only forward but for its turns, so it needs at most
-    // (MAX_TURNS + 1) * MAX_TOKENS = 16080 steps: this bound is never met.
+    // A running word goes only forward but for the turns of its loops, and each running word but the first
+    // is a turn itself, so a run needs at most (MAX_TURNS + 1) * MAX_TOKENS = 16080 steps: this bound is never met.
     private static final int STEP_BOUND = 1000000;
 
     private static final int NO_PART = -1;
